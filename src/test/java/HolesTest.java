@@ -8,7 +8,7 @@ public final class HolesTest {
     private static final Class<IllegalArgumentException> BAD = IllegalArgumentException.class;
     private static final Class<NoSuchElementException> ABSENT = NoSuchElementException.class;
 
-    /** Ten triangles over six corners, the plane that turns on itself: its holes of the heights 1 and 2 are there by odd and even alone. */
+    /** The plane that turns on itself: told by odd and even, it has holes of the heights 1 and 2. */
     private static final int[] TURNED_PLANE = {7, 11, 21, 41, 49, 38, 26, 50, 28, 44};
     private static final int[] RING_SKIN = {11, 22, 44, 88, 49, 98, 69, 13, 26, 52, 104, 81, 35, 70};
 

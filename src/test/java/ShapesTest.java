@@ -271,6 +271,18 @@ public final class ShapesTest {
             int each = corner;
             check.refuses("cone with its corner " + each, x, STATE, () -> x.cone(3, each, 1));
         }
+        for (int corner = 0; corner < 7; corner++) {
+            Holeworks y = Check.worksWith(0, 1 << corner);
+            for (int tip = 0; tip < 7; tip++) {
+                int each = tip;
+                if (tip == corner) {
+                    check.refuses("cone of " + corner + " with it", y, STATE, () -> y.cone(0, each, 1));
+                } else {
+                    check.answers("cone of " + corner + " with " + tip, 3, () -> y.cone(0, each, 1));
+                    check.same("the edge", true, y.has(1, 1 << corner | 1 << tip));
+                }
+            }
+        }
         for (int bad : NO_PLACES) {
             check.refuses("cone of " + bad, x, NO_PLACE, () -> x.cone(bad, 7, 1));
             check.refuses("cone to " + bad, x, NO_PLACE, () -> x.cone(0, -1, bad));

@@ -19,7 +19,7 @@ public final class TheoremTest {
     };
 
     private static final int[][] ROWS = {
-        {}, {1}, {1, 2}, {1, 4, 8, 64}, {3}, {3, 5, 6}, {3, 6, 12, 9}, {7}, {7, 11, 13, 14}, {15}, {127},
+        {}, {1}, {64}, {16, 32}, {2, 64}, {1, 2}, {1, 2, 4}, {1, 4, 8, 64}, {3}, {3, 5, 6}, {3, 6, 12, 9}, {7}, {7, 11, 13, 14}, {15}, {127},
         {63, 95, 111, 119, 123, 125, 126}, {11, 22, 44, 88, 49, 98, 69, 13, 26, 52, 104, 81, 35, 70},
     };
 
@@ -30,6 +30,7 @@ public final class TheoremTest {
         promise40IsTrue();
         promise41FaceIsTrue();
         promise42PairIsTrue();
+        oneAfterAnother();
         check.end();
     }
 
@@ -111,6 +112,29 @@ public final class TheoremTest {
         for (int bad : NO_PLACES) {
             check.refuses("true of " + bad, x, NO_PLACE, () -> x.pairIsTrue(bad, 0));
             check.refuses("true with " + bad, x, NO_PLACE, () -> x.pairIsTrue(0, bad));
+        }
+    }
+
+    /** What one call leaves in its scratch sets must not reach the next one. */
+    private static void oneAfterAnother() {
+        Holeworks x = new Holeworks();
+        for (int[] greatest : SHAPES) {
+            x.clear(2);
+            Check.putAll(x, 2, greatest);
+            x.drop();
+            for (int face : ROWS[x.size(2) % ROWS.length]) {
+                x.flip(face);
+            }
+            for (int round = 0; round < 3; round++) {
+                holdsTrue("true", x, () -> x.isTrue(2, 1, 5));
+                holdsTrue("sound", x, () -> x.isSound(2));
+                holdsTrue("true with itself", x, () -> x.pairIsTrue(2, 2));
+                holdsTrue("sound again", x, () -> x.isSound(2));
+                if (x.greatest(2) > 0) {
+                    holdsTrue("true of a face", x, () -> x.faceIsTrue(2, x.greatestAt(2, 0)));
+                }
+                holdsTrue("true with none", x, () -> x.pairIsTrue(2, 1));
+            }
         }
     }
 }
