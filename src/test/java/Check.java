@@ -1,4 +1,3 @@
-import java.util.ArrayList;
 import java.util.List;
 
 /** Counts and prints the calls of a test whose answer is not the one that is due. */
@@ -8,6 +7,7 @@ final class Check {
     }
 
     private final String name;
+    private String sentence = "";
     private int calls = 0;
     private int wrong = 0;
 
@@ -15,22 +15,34 @@ final class Check {
         this.name = name;
     }
 
+    /** The sentence of the document that is tried from here on: it is printed with what is wrong. */
+    void sentence(String told) {
+        sentence = " (" + told + ")";
+    }
+
     void answers(String what, Object due, Call call) {
         same(what, due, answerOf(call));
     }
 
     /** The call must throw just this exception, and change nothing. */
-    void refuses(String what, Holeworks works, Class<? extends RuntimeException> due, Call call) {
-        long before = works.checksum();
+    void refuses(String what, Works works, Class<? extends RuntimeException> due, Call call) {
+        List<List<Integer>> before = works.kept();
         same(what, due.getSimpleName(), answerOf(call));
-        same(what + " changes nothing", before, works.checksum());
+        same(what + " changes nothing", before, works.kept());
+    }
+
+    /** The call must answer this, and change nothing. */
+    void tells(String what, Works works, Object due, Call call) {
+        List<List<Integer>> before = works.kept();
+        same(what, due, answerOf(call));
+        same(what + " changes nothing", before, works.kept());
     }
 
     void same(String what, Object due, Object got) {
         calls++;
         if (!due.equals(got)) {
             wrong++;
-            System.out.println(name + ": " + what + " answered " + got + ", due is " + due);
+            System.out.println(name + sentence + ": " + what + " answered " + got + ", due is " + due);
         }
     }
 
@@ -51,37 +63,22 @@ final class Check {
         }
     }
 
-    static Holeworks worksWith(int place, int... faces) {
-        Holeworks works = new Holeworks();
+    static Works worksWith(int place, int... faces) {
+        Works works = new Works();
         putAll(works, place, faces);
         return works;
     }
 
-    static void putAll(Holeworks works, int place, int... faces) {
+    static void putAll(Works works, int place, int... faces) {
         for (int face : faces) {
             works.put(place, face);
         }
     }
 
-    static List<Integer> facesOf(Holeworks works, int place) {
-        List<Integer> faces = new ArrayList<>();
-        for (int face = 1; face <= 127; face++) {
-            if (works.has(place, face)) {
-                faces.add(face);
-            }
+    static void setRow(Works works, int... faces) {
+        works.drop();
+        for (int face : faces) {
+            works.flip(face);
         }
-        return faces;
-    }
-
-    static List<Integer> rowOf(Holeworks works) {
-        List<Integer> faces = new ArrayList<>();
-        for (int index = 0; index < 128; index++) {
-            try {
-                faces.add(works.rowAt(index));
-            } catch (IndexOutOfBoundsException e) {
-                return faces;
-            }
-        }
-        return faces;
     }
 }

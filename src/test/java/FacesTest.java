@@ -25,7 +25,7 @@ public final class FacesTest {
     }
 
     private static void promise16Has() {
-        Holeworks x = Check.worksWith(2, 82, 1);
+        Works x = Check.worksWith(2, 82, 1);
         for (int face = 1; face <= 127; face++) {
             int each = face;
             boolean due = face == 1 || (face & 82) == face;
@@ -41,7 +41,7 @@ public final class FacesTest {
     }
 
     private static void promise17Size() {
-        Holeworks x = Check.worksWith(5, 96, 3);
+        Works x = Check.worksWith(5, 96, 3);
         check.answers("size", 6, () -> x.size(5));
         check.answers("size of none", 0, () -> x.size(4));
         x.put(0, 127);
@@ -52,7 +52,7 @@ public final class FacesTest {
     }
 
     private static void promise18Faces() {
-        Holeworks x = Check.worksWith(0, 15, 112, 6);
+        Works x = Check.worksWith(0, 15, 112, 6);
         x.full(127, false, 1);
         int[] due = {7, 9, 5, 1, 0, 0, 0};
         int[] dueAll = {7, 21, 35, 35, 21, 7, 1};
@@ -71,7 +71,7 @@ public final class FacesTest {
     }
 
     private static void promise19Corners() {
-        Holeworks x = Check.worksWith(0, 3, 24, 64);
+        Works x = Check.worksWith(0, 3, 24, 64);
         check.answers("corners", 91, () -> x.corners(0));
         check.answers("corners of none", 0, () -> x.corners(1));
         x.full(127, true, 2);
@@ -84,7 +84,7 @@ public final class FacesTest {
     }
 
     private static void promise20Over() {
-        Holeworks x = Check.worksWith(0, 7, 14, 64);
+        Works x = Check.worksWith(0, 7, 14, 64);
         check.answers("over an outer corner", 3, () -> x.over(0, 1));
         check.answers("over an inner corner", 5, () -> x.over(0, 2));
         check.answers("over an inner edge", 2, () -> x.over(0, 6));
@@ -105,7 +105,7 @@ public final class FacesTest {
     }
 
     private static void promise21Greatest() {
-        Holeworks x = Check.worksWith(0, 7, 14, 24, 64);
+        Works x = Check.worksWith(0, 7, 14, 24, 64);
         check.answers("greatest", 4, () -> x.greatest(0));
         check.answers("greatest of none", 0, () -> x.greatest(1));
         x.put(1, 127);
@@ -120,7 +120,7 @@ public final class FacesTest {
     }
 
     private static void promise22GreatestAt() {
-        Holeworks x = Check.worksWith(0, 96, 64, 14, 24, 7);
+        Works x = Check.worksWith(0, 96, 64, 14, 24, 7);
         int[] due = {7, 14, 24, 96};
         for (int index = 0; index < due.length; index++) {
             int each = index;
@@ -143,7 +143,7 @@ public final class FacesTest {
     }
 
     private static void promise23IsSame() {
-        Holeworks x = Check.worksWith(0, 7, 64);
+        Works x = Check.worksWith(0, 7, 64);
         Check.putAll(x, 1, 64, 6, 5, 3);
         check.answers("not the same", false, () -> x.isSame(0, 1));
         check.answers("not the same, turned", false, () -> x.isSame(1, 0));
@@ -162,7 +162,7 @@ public final class FacesTest {
     }
 
     private static void promise24Contains() {
-        Holeworks x = Check.worksWith(0, 7, 96);
+        Works x = Check.worksWith(0, 7, 96);
         Check.putAll(x, 1, 3, 64);
         check.answers("contains", true, () -> x.contains(0, 1));
         check.answers("contains, turned", false, () -> x.contains(1, 0));

@@ -26,7 +26,7 @@ public final class HolesTest {
     }
 
     private static void promise25Pieces() {
-        Holeworks x = Check.worksWith(0, 3, 6, 24, 64);
+        Works x = Check.worksWith(0, 3, 6, 24, 64);
         check.answers("pieces", 3, () -> x.pieces(0));
         check.answers("pieces of none", 0, () -> x.pieces(1));
         x.full(127, false, 1);
@@ -45,7 +45,7 @@ public final class HolesTest {
     }
 
     private static void promise26AreJoined() {
-        Holeworks x = Check.worksWith(0, 65, 96, 34, 20);
+        Works x = Check.worksWith(0, 65, 96, 34, 20);
         int[] pieceOf = {1, 1, 2, 0, 2, 1, 1};
         for (int one = 0; one < 7; one++) {
             for (int other = 0; other < 7; other++) {
@@ -70,7 +70,7 @@ public final class HolesTest {
     }
 
     private static void promise27Free() {
-        Holeworks x = Check.worksWith(0, 7, 14, 24, 64);
+        Works x = Check.worksWith(0, 7, 14, 24, 64);
         x.full(127, false, 1);
         int[] due = {4, 2, 0, 0, 0, 0};
         int[] dueAll = {6, 15, 20, 15, 6, 1};
@@ -90,7 +90,7 @@ public final class HolesTest {
         }
     }
 
-    private static void holes(Holeworks x, String what, int place, int... due) {
+    private static void holes(Works x, String what, int place, int... due) {
         for (int height = 0; height < 7; height++) {
             int each = height;
             int wanted = height < due.length ? due[height] : 0;
@@ -99,7 +99,7 @@ public final class HolesTest {
     }
 
     private static void promise28Holes() {
-        Holeworks x = new Holeworks();
+        Works x = new Works();
         holes(x, "none", 0);
         x.put(0, 64);
         holes(x, "a corner", 0);
@@ -127,8 +127,8 @@ public final class HolesTest {
     }
 
     private static void promise28HolesOfRims() {
-        Holeworks x = new Holeworks();
         for (int corners = 1; corners <= 127; corners++) {
+            Works x = new Works();
             int many = Integer.bitCount(corners);
             x.full(corners, true, 0);
             int[] due = new int[7];
@@ -140,12 +140,12 @@ public final class HolesTest {
     }
 
     private static void promise28HolesOfSurfaces() {
-        Holeworks x = new Holeworks();
+        Works x = new Works();
         Check.putAll(x, 0, RING_SKIN);
         check.same("edges of a ring's skin", 21, x.faces(0, 1));
         check.same("triangles of a ring's skin", 14, x.faces(0, 2));
         holes(x, "a ring's skin", 0, 0, 2, 1);
-        Holeworks y = new Holeworks();
+        Works y = new Works();
         Check.putAll(y, 0, TURNED_PLANE);
         check.same("edges of the plane", 15, y.faces(0, 1));
         check.same("triangles of the plane", 10, y.faces(0, 2));
@@ -155,7 +155,7 @@ public final class HolesTest {
     }
 
     private static void promise29Signed() {
-        Holeworks x = Check.worksWith(0, 7, 14, 24, 64);
+        Works x = Check.worksWith(0, 7, 14, 24, 64);
         check.answers("signed", 2, () -> x.signed(0));
         check.answers("signed of none", 0, () -> x.signed(1));
         x.full(127, false, 2);

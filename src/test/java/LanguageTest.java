@@ -12,10 +12,18 @@ public final class LanguageTest {
     private static final int MOST_CLASSES = 12;
 
     private static final String[] FORBIDDEN = {
-        "->", "::", "\\btry\\b", "\\bcatch\\b", "\\bfinally\\b", "\\bsynchronized\\b", "\\bassert\\b",
-        "\\bpackage\\b", "\\binstanceof\\b", "\\bvar\\b", "\\bprotected\\b", "\\bnative\\b", "\\bvolatile\\b",
-        "\\bSystem\\b", "\\bThread\\b", "\\bObject\\b", "Exact\\b", "\\bgetMessage\\b", "\\bhashCode\\b",
-        "\\btoString\\b", "\\bequals\\b", "\\bstatic \\{", "\\?\\?", "\\bdo\\b", "\\bwhile\\b",
+        "->", "::", "\\bfinally\\b", "\\btry\\s*\\(", "\\bsynchronized\\b", "\\bassert\\b", "\\bpackage\\b",
+        "\\bprotected\\b", "\\bnative\\b", "\\bvolatile\\b", "\\bObject\\b", "\\bThread\\b", "\\bRandom\\b",
+        "\\bSystem\\.(?!arraycopy\\b)", "\\bArrays\\.(?!(copyOf|copyOfRange|fill)\\b)", "Exact\\b",
+        "\\bMath\\.random\\b", "\\bgetMessage\\b", "\\bhashCode\\b", "\\bstatic\\s*\\{", "\\bBitSet\\b",
+        "\\bString\\.format\\b",
+        "\\bcatch\\s*\\(\\s*(final\\s+)?(Throwable|Exception|Error|NullPointerException|ClassCastException"
+                + "|ArrayIndexOutOfBoundsException|NegativeArraySizeException|ArrayStoreException)\\b",
+    };
+
+    private static final String[] IMPORTS = {
+        "import java.util.ArrayList;", "import java.util.Arrays;", "import java.util.Iterator;",
+        "import java.util.List;", "import java.util.NoSuchElementException;",
     };
 
     private static final Check check = new Check("LanguageTest");
@@ -23,15 +31,16 @@ public final class LanguageTest {
     public static void main(String[] args) throws IOException {
         String text = Files.readString(FILE);
         String code = text.replaceAll("(?s)/\\*.*?\\*/", "").replaceAll("//[^\n]*", "");
+        String withoutCases = code.replaceAll("\\b(case\\b[^;{}]*?|default\\s*)->", "");
         for (String each : FORBIDDEN) {
-            check.same("the code has " + each, false, Pattern.compile(each).matcher(code).find());
+            check.same("the code has " + each, false, Pattern.compile(each).matcher(withoutCases).find());
         }
-        check.same("the imports", List.of("import java.util.NoSuchElementException;"),
-                code.lines().filter(line -> line.startsWith("import")).toList());
+        for (String line : code.lines().filter(each -> each.startsWith("import")).toList()) {
+            check.same(line, true, List.of(IMPORTS).contains(line));
+        }
         check.same("all signs are plain", true, text.chars().allMatch(sign -> sign == '\n' || sign > 31 && sign < 127));
         check.same("few classes", true, count(code, "\\bclass \\w+") <= MOST_CLASSES);
         check.same("static fields are final", 0, count(code, "\\bstatic (?!final\\b)[\\w\\[\\]]+ \\w+\\s*[=;]"));
-        check.same("library calls", 0, count(code, "\\b(Math|Integer|Long|String|Arrays)\\.(?!bitCount\\b)"));
         shortMethods(code);
         check.end();
     }

@@ -14,6 +14,16 @@ final class Model {
         }
     }
 
+    /** All that is kept: the faces of each shape, then those of the row. */
+    List<List<Integer>> kept() {
+        List<List<Integer>> all = new ArrayList<>();
+        for (TreeSet<Integer> shape : shapes) {
+            all.add(new ArrayList<>(shape));
+        }
+        all.add(new ArrayList<>(row));
+        return all;
+    }
+
     private static void checkPlace(int... places) {
         for (int place : places) {
             if (place < 0 || place > 5) {

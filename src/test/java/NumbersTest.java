@@ -15,7 +15,7 @@ public final class NumbersTest {
     }
 
     private static void promise36Mean() {
-        Holeworks x = Check.worksWith(0, 7, 14, 24);
+        Works x = Check.worksWith(0, 7, 14, 24);
         check.answers("mean", 10.0 / 13.0, () -> x.mean(0));
         check.refuses("mean of none", x, NoSuchElementException.class, () -> x.mean(1));
         x.put(1, 64);
@@ -30,7 +30,7 @@ public final class NumbersTest {
     }
 
     private static void promise37Share() {
-        Holeworks x = Check.worksWith(0, 7, 14, 24);
+        Works x = Check.worksWith(0, 7, 14, 24);
         check.answers("share", 3.0f / 13.0f, () -> x.share(0));
         check.answers("share of none", 0.0f, () -> x.share(1));
         x.put(1, 64);
@@ -53,7 +53,7 @@ public final class NumbersTest {
     }
 
     private static void promise38Checksum() {
-        Holeworks x = new Holeworks();
+        Works x = new Works();
         check.answers("of nothing", told(0, 0, 0, 0, 0, 0, 0), () -> x.checksum());
         x.flip(66);
         x.flip(3);

@@ -23,19 +23,12 @@ public final class RowTest {
         check.end();
     }
 
-    private static void row(Holeworks x, String what, Integer... due) {
-        check.same(what, List.of(due), Check.rowOf(x));
-    }
-
-    private static void setRow(Holeworks x, int... faces) {
-        x.drop();
-        for (int face : faces) {
-            x.flip(face);
-        }
+    private static void row(Works x, String what, Integer... due) {
+        check.same(what, List.of(due), x.rowFaces());
     }
 
     private static void promise30Flip() {
-        Holeworks x = new Holeworks();
+        Works x = new Works();
         check.answers("flip", 1, () -> x.flip(96));
         check.answers("flip a second", 2, () -> x.flip(3));
         check.answers("flip a third", 3, () -> x.flip(66));
@@ -60,33 +53,33 @@ public final class RowTest {
     }
 
     private static void promise31Border() {
-        Holeworks x = new Holeworks();
+        Works x = new Works();
         check.answers("border of none", 0, () -> x.border());
-        setRow(x, 7, 14);
+        Check.setRow(x, 7, 14);
         check.answers("border of two triangles", 4, () -> x.border());
         row(x, "border of two triangles", 3, 5, 10, 12);
         check.answers("border of a border", 0, () -> x.border());
         row(x, "border of a border");
-        setRow(x, 3, 6, 12, 96);
+        Check.setRow(x, 3, 6, 12, 96);
         check.answers("border of a path", 4, () -> x.border());
         row(x, "border of a path", 1, 8, 32, 64);
         check.answers("border of corners", 0, () -> x.border());
         check.answers("a face of another height", 1, () -> x.flip(127));
         check.answers("border of the greatest", 7, () -> x.border());
         row(x, "border of the greatest", 63, 95, 111, 119, 123, 125, 126);
-        setRow(x, 11, 14, 7, 13);
+        Check.setRow(x, 11, 14, 7, 13);
         check.answers("border of a round", 0, () -> x.border());
     }
 
     private static void promise31BorderOfEachFace() {
-        Holeworks x = new Holeworks();
+        Works x = new Works();
         for (int face = 1; face <= 127; face++) {
-            setRow(x, face);
+            Check.setRow(x, face);
             int corners = Integer.bitCount(face);
             int due = corners == 1 ? 0 : corners;
             check.answers("border of " + face, due, () -> x.border());
             int previous = 0;
-            for (int part : Check.rowOf(x)) {
+            for (int part : x.rowFaces()) {
                 boolean isPart = (part & face) == part && Integer.bitCount(part) == corners - 1;
                 check.same("part " + part + " of " + face, true, isPart && part > previous);
                 previous = part;
@@ -95,9 +88,9 @@ public final class RowTest {
     }
 
     private static void promise32Drop() {
-        Holeworks x = new Holeworks();
+        Works x = new Works();
         check.answers("drop of none", 0, () -> x.drop());
-        setRow(x, 7, 112, 11);
+        Check.setRow(x, 7, 112, 11);
         x.put(0, 7);
         check.answers("drop", 3, () -> x.drop());
         row(x, "dropped");
@@ -107,9 +100,9 @@ public final class RowTest {
     }
 
     private static void promise33RowAt() {
-        Holeworks x = new Holeworks();
+        Works x = new Works();
         check.refuses("none at 0", x, NO_PLACE, () -> x.rowAt(0));
-        setRow(x, 104, 7, 67, 14);
+        Check.setRow(x, 104, 7, 67, 14);
         int[] due = {7, 14, 67, 104};
         for (int index = 0; index < due.length; index++) {
             int each = index;
@@ -121,41 +114,41 @@ public final class RowTest {
     }
 
     private static void promise34IsRound() {
-        Holeworks x = new Holeworks();
+        Works x = new Works();
         check.answers("none is round", true, () -> x.isRound());
-        setRow(x, 3, 6);
+        Check.setRow(x, 3, 6);
         check.answers("a path is not", false, () -> x.isRound());
         x.flip(5);
         check.answers("a triangle's border is", true, () -> x.isRound());
         row(x, "it stays", 3, 5, 6);
-        setRow(x, 4);
+        Check.setRow(x, 4);
         check.answers("a corner is", true, () -> x.isRound());
         x.flip(64);
         check.answers("two corners are", true, () -> x.isRound());
-        setRow(x, 127);
+        Check.setRow(x, 127);
         check.answers("the greatest is not", false, () -> x.isRound());
         x.border();
         check.answers("its border is", true, () -> x.isRound());
         x.flip(63);
         check.answers("without one it is not", false, () -> x.isRound());
-        setRow(x, 3, 12);
+        Check.setRow(x, 3, 12);
         check.answers("two edges are not", false, () -> x.isRound());
     }
 
     private static void promise35Fills() {
-        Holeworks x = Check.worksWith(0, 3, 6, 12, 9, 5);
+        Works x = Check.worksWith(0, 3, 6, 12, 9, 5);
         check.answers("none fills", true, () -> x.fills(0));
         check.answers("none fills in none", true, () -> x.fills(5));
-        setRow(x, 3, 6, 5);
+        Check.setRow(x, 3, 6, 5);
         check.answers("round, not filled", false, () -> x.fills(0));
         x.put(0, 7);
         check.answers("filled", true, () -> x.fills(0));
         row(x, "it stays", 3, 5, 6);
-        setRow(x, 3, 6, 12, 9);
+        Check.setRow(x, 3, 6, 12, 9);
         check.answers("round two triangles, one there", false, () -> x.fills(0));
         x.put(0, 13);
         check.answers("round two triangles", true, () -> x.fills(0));
-        setRow(x, 3);
+        Check.setRow(x, 3);
         check.answers("not round", false, () -> x.fills(0));
         check.refuses("a face of the row is absent", x, STATE, () -> x.fills(1));
         x.flip(10);
@@ -166,8 +159,8 @@ public final class RowTest {
     }
 
     private static void promise35FillsByCorners() {
-        Holeworks x = Check.worksWith(0, 3, 6, 24, 64);
-        setRow(x, 1);
+        Works x = Check.worksWith(0, 3, 6, 24, 64);
+        Check.setRow(x, 1);
         check.answers("one corner", false, () -> x.fills(0));
         x.flip(4);
         check.answers("two of a piece", true, () -> x.fills(0));
@@ -177,17 +170,17 @@ public final class RowTest {
         x.flip(1);
         x.flip(16);
         check.answers("two and two", true, () -> x.fills(0));
-        setRow(x, 1, 64);
+        Check.setRow(x, 1, 64);
         check.answers("two of two pieces", false, () -> x.fills(0));
-        setRow(x, 1, 32);
+        Check.setRow(x, 1, 32);
         check.refuses("a corner that is not there", x, STATE, () -> x.fills(0));
     }
 
     private static void promise35FillsAcrossHeights() {
-        Holeworks x = new Holeworks();
         for (int corners = 3; corners <= 127; corners++) {
+            Works x = new Works();
             int many = Integer.bitCount(corners);
-            setRow(x, corners);
+            Check.setRow(x, corners);
             x.full(corners, false, 0);
             check.answers("the greatest of " + corners, false, () -> x.fills(0));
             if (many > 1) {

@@ -33,22 +33,22 @@ public final class ShapesTest {
         check.end();
     }
 
-    private static void faces(Holeworks x, String what, int place, Integer... due) {
-        check.same(what, List.of(due), Check.facesOf(x, place));
+    private static void faces(Works x, String what, int place, Integer... due) {
+        check.same(what, List.of(due), x.facesAt(place));
     }
 
     private static void promise1New() {
-        Holeworks x = new Holeworks();
+        Works x = new Works();
         for (int place = 0; place < 6; place++) {
             faces(x, "a new shape", place);
             check.same("a new size", 0, x.size(place));
         }
-        check.same("a new row", List.of(), Check.rowOf(x));
+        check.same("a new row", List.of(), x.rowFaces());
         check.same("a new row's faces", 0, x.drop());
     }
 
     private static void promise2Put() {
-        Holeworks x = new Holeworks();
+        Works x = new Works();
         check.answers("put a corner", 1, () -> x.put(0, 64));
         check.answers("put it again", 0, () -> x.put(0, 64));
         check.answers("put a triangle", 7, () -> x.put(5, 7));
@@ -69,7 +69,7 @@ public final class ShapesTest {
     }
 
     private static void promise3Take() {
-        Holeworks x = Check.worksWith(1, 7, 14);
+        Works x = Check.worksWith(1, 7, 14);
         check.answers("take an edge", 3, () -> x.take(1, 6));
         faces(x, "without the edge", 1, 1, 2, 3, 4, 5, 8, 10, 12);
         check.answers("take a corner", 3, () -> x.take(1, 8));
@@ -92,7 +92,7 @@ public final class ShapesTest {
     }
 
     private static void promise4Clear() {
-        Holeworks x = Check.worksWith(3, 96, 1);
+        Works x = Check.worksWith(3, 96, 1);
         x.put(4, 2);
         check.answers("clear", 4, () -> x.clear(3));
         faces(x, "cleared", 3);
@@ -106,7 +106,7 @@ public final class ShapesTest {
     }
 
     private static void promise5Copy() {
-        Holeworks x = Check.worksWith(0, 7);
+        Works x = Check.worksWith(0, 7);
         x.put(1, 120);
         check.answers("copy", 7, () -> x.copy(0, 1));
         faces(x, "the copy", 1, 1, 2, 3, 4, 5, 6, 7);
@@ -123,7 +123,7 @@ public final class ShapesTest {
     }
 
     private static void promise6Unite() {
-        Holeworks x = Check.worksWith(0, 3);
+        Works x = Check.worksWith(0, 3);
         x.put(1, 66);
         check.answers("unite", 5, () -> x.unite(0, 1, 2));
         faces(x, "the union", 2, 1, 2, 3, 64, 66);
@@ -146,7 +146,7 @@ public final class ShapesTest {
     }
 
     private static void promise7Meet() {
-        Holeworks x = Check.worksWith(0, 7, 96);
+        Works x = Check.worksWith(0, 7, 96);
         Check.putAll(x, 1, 14, 64);
         check.answers("meet", 4, () -> x.meet(0, 1, 2));
         faces(x, "the meeting", 2, 2, 4, 6, 64);
@@ -166,7 +166,7 @@ public final class ShapesTest {
     }
 
     private static void promise8Full() {
-        Holeworks x = Check.worksWith(1, 127);
+        Works x = Check.worksWith(1, 127);
         check.answers("full of three", 7, () -> x.full(82, false, 1));
         faces(x, "full of three", 1, 2, 16, 18, 64, 66, 80, 82);
         check.answers("rim of three", 6, () -> x.full(82, true, 1));
@@ -190,7 +190,7 @@ public final class ShapesTest {
     }
 
     private static void promise9Low() {
-        Holeworks x = Check.worksWith(0, 15, 96);
+        Works x = Check.worksWith(0, 15, 96);
         check.answers("low to 0", 6, () -> x.low(0, 0, 1));
         faces(x, "low to 0", 1, 1, 2, 4, 8, 32, 64);
         check.answers("low to 1", 13, () -> x.low(0, 1, 1));
@@ -216,7 +216,7 @@ public final class ShapesTest {
     }
 
     private static void promise10About() {
-        Holeworks x = Check.worksWith(0, 7, 14, 80);
+        Works x = Check.worksWith(0, 7, 14, 80);
         check.answers("about a corner", 7, () -> x.about(0, 1, false, 1));
         faces(x, "about a corner", 1, 1, 2, 3, 4, 5, 6, 7);
         check.answers("about an inner edge", 11, () -> x.about(0, 6, false, 1));
@@ -240,7 +240,7 @@ public final class ShapesTest {
     }
 
     private static void promise10Around() {
-        Holeworks x = Check.worksWith(0, 7, 14, 80);
+        Works x = Check.worksWith(0, 7, 14, 80);
         check.answers("around a corner", 3, () -> x.about(0, 1, true, 1));
         faces(x, "around a corner", 1, 2, 4, 6);
         check.answers("around an inner corner", 5, () -> x.about(0, 2, true, 1));
@@ -257,7 +257,7 @@ public final class ShapesTest {
     }
 
     private static void promise11Cone() {
-        Holeworks x = Check.worksWith(0, 3, 4);
+        Works x = Check.worksWith(0, 3, 4);
         check.answers("cone", 9, () -> x.cone(0, 6, 1));
         faces(x, "cone", 1, 1, 2, 3, 4, 64, 65, 66, 67, 68);
         faces(x, "it stays", 0, 1, 2, 3, 4);
@@ -272,7 +272,7 @@ public final class ShapesTest {
             check.refuses("cone with its corner " + each, x, STATE, () -> x.cone(3, each, 1));
         }
         for (int corner = 0; corner < 7; corner++) {
-            Holeworks y = Check.worksWith(0, 1 << corner);
+            Works y = Check.worksWith(0, 1 << corner);
             for (int tip = 0; tip < 7; tip++) {
                 int each = tip;
                 if (tip == corner) {
@@ -295,7 +295,7 @@ public final class ShapesTest {
     }
 
     private static void promise12Lift() {
-        Holeworks x = Check.worksWith(0, 3, 4);
+        Works x = Check.worksWith(0, 3, 4);
         check.answers("lift", 14, () -> x.lift(0, 6, 3, 1));
         faces(x, "lift", 1, 1, 2, 3, 4, 8, 9, 10, 11, 12, 64, 65, 66, 67, 68);
         check.answers("lift of none", 2, () -> x.lift(5, 0, 1, 2));
@@ -319,7 +319,7 @@ public final class ShapesTest {
     }
 
     private static void promise13Other() {
-        Holeworks x = Check.worksWith(0, 3, 5);
+        Works x = Check.worksWith(0, 3, 5);
         check.answers("other over its own", 1, () -> x.other(0, 7, 1));
         faces(x, "other over its own", 1, 1);
         check.answers("other over four", 9, () -> x.other(0, 15, 1));
@@ -353,7 +353,7 @@ public final class ShapesTest {
     }
 
     private static void promise14Exchange() {
-        Holeworks x = Check.worksWith(0, 7, 24);
+        Works x = Check.worksWith(0, 7, 24);
         check.answers("exchange", 4, () -> x.exchange(0, 0, 3, 1));
         faces(x, "exchange", 1, 1, 2, 4, 6, 8, 10, 12, 14, 16, 17);
         faces(x, "it stays", 0, 1, 2, 3, 4, 5, 6, 7, 8, 16, 24);
@@ -379,7 +379,7 @@ public final class ShapesTest {
     }
 
     private static void promise15Fold() {
-        Holeworks x = Check.worksWith(0, 7, 14, 64);
+        Works x = Check.worksWith(0, 7, 14, 64);
         check.answers("fold an edge", 7, () -> x.fold(0, 3));
         faces(x, "fold an edge", 0, 1, 2, 4, 5, 6, 8, 10, 12, 14, 64);
         check.answers("fold a corner", 5, () -> x.fold(0, 1));

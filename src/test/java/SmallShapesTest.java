@@ -51,7 +51,7 @@ public final class SmallShapesTest {
     }
 
     private static void sameAsModel(int shape, int[] names) {
-        Holeworks works = new Holeworks();
+        Works works = new Works();
         Model model = new Model();
         for (int face = 1; face < 16; face++) {
             if ((shape >> face & 1) == 1) {
@@ -59,7 +59,7 @@ public final class SmallShapesTest {
                 model.put(0, named(face, names));
             }
         }
-        String what = " of " + Check.facesOf(works, 0);
+        String what = " of " + works.facesAt(0);
         check.same("faces" + what, Integer.bitCount(shape), works.size(0));
         check.same("pieces" + what, model.pieces(0), works.pieces(0));
         check.same("signed" + what, model.signed(0), works.signed(0));
@@ -71,7 +71,7 @@ public final class SmallShapesTest {
         }
     }
 
-    private static void fill(Holeworks works, int place, int shape) {
+    private static void fill(Works works, int place, int shape) {
         works.clear(place);
         for (int face = 1; face < 16; face++) {
             if ((shape >> face & 1) == 1) {
@@ -81,7 +81,7 @@ public final class SmallShapesTest {
     }
 
     private static void theoremHolds(int shape) {
-        Holeworks works = new Holeworks();
+        Works works = new Works();
         fill(works, 0, shape);
         check.same("sound " + shape, true, works.isSound(0));
         for (int corner = 0; corner < 7; corner++) {
@@ -97,7 +97,7 @@ public final class SmallShapesTest {
     private static void pairsHold(List<Integer> shapes) {
         for (int one : shapes) {
             for (int other : shapes) {
-                Holeworks works = new Holeworks();
+                Works works = new Works();
                 fill(works, 0, one);
                 fill(works, 1, other);
                 works.exchange(1, 0, 4, 1);
