@@ -1,4 +1,5 @@
 import java.util.ArrayList;
+import java.util.Arrays;
 import java.util.Collections;
 import java.util.List;
 import java.util.NoSuchElementException;
@@ -9,6 +10,14 @@ public final class ShapeEdgesTest {
     private static final Class<NoSuchElementException> ABSENT = NoSuchElementException.class;
     private static final Class<IllegalStateException> STATE = IllegalStateException.class;
     private static final int ALL = 127;
+
+    /** The calls that make a shape for a place, which is their last argument, of shapes at the places 0 and 1. */
+    private static final String[] MAKING = {
+        "copy", "unite", "meet", "full", "full", "low", "about", "about", "cone", "lift", "other", "exchange",
+    };
+    private static final int[][] MADE_OF = {
+        {0}, {0, 1}, {0, 1}, {82, 0}, {82, 1}, {0, 1}, {0, 2, 0}, {0, 2, 1}, {0, 6}, {0, 6, 4}, {0, 47}, {0, 1, 6},
+    };
 
     private static final Check check = new Check("ShapeEdgesTest");
 
@@ -45,6 +54,8 @@ public final class ShapeEdgesTest {
         foldInJustOne();
         foldInNone();
         foldInMore();
+        replacesWhatItHas();
+        readsBeforeItWrites();
         check.end();
     }
 
@@ -621,5 +632,50 @@ public final class ShapeEdgesTest {
         check.answers("now in one edge", 3, () -> path.fold(0, 2));
         has("what is left", path, 0, 1);
         check.refuses("now in none", path, STATE, () -> path.fold(0, 1));
+    }
+
+    private static Works twoShapes() {
+        Works x = Check.worksWith(0, 7, 40);
+        Check.putAll(x, 1, 6, 8);
+        return x;
+    }
+
+    private static int[] with(int[] values, int to) {
+        int[] all = Arrays.copyOf(values, values.length + 1);
+        all[values.length] = to;
+        return all;
+    }
+
+    private static void replacesWhatItHas() {
+        check.sentence("5 to 14: the place that gets it in place of what it has");
+        for (int number = 0; number < MAKING.length; number++) {
+            Calls.Call call = Calls.named(MAKING[number]);
+            for (int to = 2; to < Works.PLACES; to++) {
+                int[] values = with(MADE_OF[number], to);
+                Works onNone = twoShapes();
+                Works onFull = twoShapes();
+                onFull.full(ALL, false, to);
+                Object due = call.ofProgram(onNone, values);
+                check.same(call.with(values) + " on the full", due, call.ofProgram(onFull, values));
+                check.same(call.with(values) + " on the full keeps", onNone.kept(), onFull.kept());
+            }
+        }
+    }
+
+    private static void readsBeforeItWrites() {
+        check.sentence("5 to 14: the place that gets it may be one of which it is made");
+        for (int number = 0; number < MAKING.length; number++) {
+            Calls.Call call = Calls.named(MAKING[number]);
+            Works aside = twoShapes();
+            Object due = call.ofProgram(aside, with(MADE_OF[number], 5));
+            check.same(call.name() + " is not refused", true, due instanceof Integer);
+            for (int to = 0; to < 2; to++) {
+                int[] values = with(MADE_OF[number], to);
+                Works x = twoShapes();
+                check.same(call.with(values), due, call.ofProgram(x, values));
+                check.same(call.with(values) + " makes", aside.facesAt(5), x.facesAt(to));
+                check.same(call.with(values) + " leaves", twoShapes().facesAt(1 - to), x.facesAt(1 - to));
+            }
+        }
     }
 }

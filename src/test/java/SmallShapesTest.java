@@ -21,7 +21,7 @@ public final class SmallShapesTest {
     }
 
     /** Each shape over the corners 0 to 3 as a number, with a bit for each of its faces. */
-    private static List<Integer> allShapes() {
+    static List<Integer> allShapes() {
         List<Integer> shapes = new ArrayList<>();
         for (int bits = 0; bits < 1 << 16; bits += 2) {
             if (isClosed(bits)) {
@@ -71,7 +71,7 @@ public final class SmallShapesTest {
         }
     }
 
-    private static void fill(Works works, int place, int shape) {
+    static void fill(Works works, int place, int shape) {
         works.clear(place);
         for (int face = 1; face < 16; face++) {
             if ((shape >> face & 1) == 1) {
