@@ -11,6 +11,8 @@ public final class Holeworks {
     private static final int HEIGHTS = 7;
     private static final int LAST_FACE = 127;
     private static final int NO_FACE = 0;
+    /** The document takes 1 from the corners, where it takes R from the faces of any other height. */
+    private static final int LOST_CORNERS = 1;
 
     private final FaceSet[] shapes;
     private final FaceSet row;
@@ -26,8 +28,8 @@ public final class Holeworks {
         }
         row = new FaceSet();
         made = new FaceSet();
-        borders = new Borders();
-        theorem = new Theorem(borders);
+        theorem = new Theorem();
+        borders = theorem.borders();
     }
 
     // Shapes.
@@ -171,7 +173,7 @@ public final class Holeworks {
         return greater;
     }
 
-    // Looking at shapes.
+    // Faces.
 
     public boolean has(int place, int face) throws IndexOutOfBoundsException, IllegalArgumentException {
         FaceSet shape = shapeAt(place);
@@ -835,15 +837,11 @@ public final class Holeworks {
         }
 
         int countHoles(FaceSet shape, int height) {
-            return holesBetween(shape, height, countFree(shape, height), countFree(shape, height + 1));
-        }
-
-        static int holesBetween(FaceSet shape, int height, int freeHere, int freeAbove) {
             if (shape.isEmpty()) {
                 return 0;
             }
-            int many = shape.countAt(height) - freeHere - freeAbove;
-            return height == 0 ? many - 1 : many;
+            int lost = height == 0 ? LOST_CORNERS : countFree(shape, height);
+            return shape.countAt(height) - lost - countFree(shape, height + 1);
         }
 
         boolean isFilling(FaceSet row, FaceSet shape) {
@@ -870,11 +868,11 @@ public final class Holeworks {
         }
 
         void tell(FaceSet shape, Borders borders) {
-            int freeHere = 0;
+            int lost = LOST_CORNERS;
             for (int height = 0; height < HEIGHTS; height++) {
                 int freeAbove = borders.countFree(shape, height + 1);
-                many[height] = Borders.holesBetween(shape, height, freeHere, freeAbove);
-                freeHere = freeAbove;
+                many[height] = shape.isEmpty() ? 0 : shape.countAt(height) - lost - freeAbove;
+                lost = freeAbove;
             }
         }
 
@@ -924,13 +922,18 @@ public final class Holeworks {
         private final HoleRow holesAfter;
         private final HoleRow holesSecond;
 
-        Theorem(Borders borders) {
-            this.borders = borders;
+        Theorem() {
+            borders = new Borders();
             made = new FaceSet();
             second = new FaceSet();
             holesBefore = new HoleRow();
             holesAfter = new HoleRow();
             holesSecond = new HoleRow();
+        }
+
+        /** The same ones serve what is no try of the theorem: an object needs their rows but once. */
+        Borders borders() {
+            return borders;
         }
 
         /** (1), for a row, and for the row in a shape, if this has all of its faces. */
