@@ -1,29 +1,19 @@
 import com.sun.source.tree.ArrayAccessTree;
-import com.sun.source.tree.AssertTree;
 import com.sun.source.tree.BinaryTree;
 import com.sun.source.tree.BlockTree;
 import com.sun.source.tree.ClassTree;
 import com.sun.source.tree.CompilationUnitTree;
-import com.sun.source.tree.DoWhileLoopTree;
-import com.sun.source.tree.EnhancedForLoopTree;
 import com.sun.source.tree.ForLoopTree;
 import com.sun.source.tree.IdentifierTree;
 import com.sun.source.tree.ImportTree;
-import com.sun.source.tree.InstanceOfTree;
-import com.sun.source.tree.LambdaExpressionTree;
-import com.sun.source.tree.MemberReferenceTree;
 import com.sun.source.tree.MethodInvocationTree;
 import com.sun.source.tree.MethodTree;
 import com.sun.source.tree.NewArrayTree;
 import com.sun.source.tree.NewClassTree;
-import com.sun.source.tree.SwitchTree;
-import com.sun.source.tree.SynchronizedTree;
 import com.sun.source.tree.ThrowTree;
 import com.sun.source.tree.Tree;
-import com.sun.source.tree.TryTree;
 import com.sun.source.tree.TypeCastTree;
 import com.sun.source.tree.VariableTree;
-import com.sun.source.tree.WhileLoopTree;
 import com.sun.source.util.JavacTask;
 import com.sun.source.util.TreePath;
 import com.sun.source.util.TreePathScanner;
@@ -68,6 +58,12 @@ public final class LanguageTest extends TreePathScanner<Void, Void> {
             TypeKind.CHAR, TypeKind.BOOLEAN, TypeKind.DOUBLE, TypeKind.FLOAT);
     private static final Set<Tree.Kind> COMPARISONS = Set.of(Tree.Kind.LESS_THAN, Tree.Kind.LESS_THAN_EQUAL,
             Tree.Kind.GREATER_THAN, Tree.Kind.GREATER_THAN_EQUAL, Tree.Kind.CONDITIONAL_AND);
+
+    /** What stands nowhere in the class, by the rule that tells of it. */
+    private static final Map<Tree.Kind, Integer> REFUSED = Map.of(Tree.Kind.LAMBDA_EXPRESSION, 2,
+            Tree.Kind.MEMBER_REFERENCE, 2, Tree.Kind.TRY, 6, Tree.Kind.SYNCHRONIZED, 6, Tree.Kind.ASSERT, 6,
+            Tree.Kind.SWITCH, 6, Tree.Kind.INSTANCE_OF, 6, Tree.Kind.WHILE_LOOP, 9, Tree.Kind.DO_WHILE_LOOP, 9,
+            Tree.Kind.ENHANCED_FOR_LOOP, 9);
 
     private static final Check check = new Check("LanguageTest");
 
@@ -178,6 +174,14 @@ public final class LanguageTest extends TreePathScanner<Void, Void> {
     private boolean isInConstructor() {
         MethodTree method = enclosing(MethodTree.class);
         return method != null && method.getReturnType() == null;
+    }
+
+    @Override
+    public Void scan(Tree tree, Void none) {
+        if (tree != null && REFUSED.containsKey(tree.getKind())) {
+            rule(REFUSED.get(tree.getKind()), here() + " has a " + tree.getKind(), false);
+        }
+        return super.scan(tree, none);
     }
 
     @Override
@@ -341,60 +345,5 @@ public final class LanguageTest extends TreePathScanner<Void, Void> {
         boolean isLooked = isPlain || tree.getIndex() instanceof ArrayAccessTree;
         rule(7, here() + ": " + tree + " has an index that can be looked at", isLooked);
         return super.visitArrayAccess(tree, none);
-    }
-
-    private Void refused(int number, Tree tree) {
-        rule(number, here() + " has a " + tree.getKind(), false);
-        return null;
-    }
-
-    @Override
-    public Void visitLambdaExpression(LambdaExpressionTree tree, Void none) {
-        return refused(2, tree);
-    }
-
-    @Override
-    public Void visitMemberReference(MemberReferenceTree tree, Void none) {
-        return refused(2, tree);
-    }
-
-    @Override
-    public Void visitTry(TryTree tree, Void none) {
-        return refused(6, tree);
-    }
-
-    @Override
-    public Void visitSynchronized(SynchronizedTree tree, Void none) {
-        return refused(6, tree);
-    }
-
-    @Override
-    public Void visitAssert(AssertTree tree, Void none) {
-        return refused(6, tree);
-    }
-
-    @Override
-    public Void visitSwitch(SwitchTree tree, Void none) {
-        return refused(6, tree);
-    }
-
-    @Override
-    public Void visitInstanceOf(InstanceOfTree tree, Void none) {
-        return refused(6, tree);
-    }
-
-    @Override
-    public Void visitWhileLoop(WhileLoopTree tree, Void none) {
-        return refused(9, tree);
-    }
-
-    @Override
-    public Void visitDoWhileLoop(DoWhileLoopTree tree, Void none) {
-        return refused(9, tree);
-    }
-
-    @Override
-    public Void visitEnhancedForLoop(EnhancedForLoopTree tree, Void none) {
-        return refused(9, tree);
     }
 }
