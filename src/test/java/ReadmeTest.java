@@ -1,6 +1,4 @@
 import java.io.IOException;
-import java.lang.reflect.InvocationTargetException;
-import java.lang.reflect.Method;
 import java.nio.file.Files;
 import java.nio.file.Path;
 import java.util.ArrayList;
@@ -16,7 +14,7 @@ public final class ReadmeTest {
     private static final Path PAGE = Path.of("README.md");
     private static final Path TESTS = Path.of("src/test/java");
     private static final String FIRST_LINE = "Holeworks works = new Holeworks();";
-    private static final Pattern LINE = Pattern.compile("works\\.(\\w+)\\((.*?)\\); +// .*: (answers|throws) (\\S+)");
+    private static final Pattern LINE = Pattern.compile("works\\.(\\w+\\(.*?\\)); +// .*: (answers|throws) (\\S+)");
     private static final int FEWEST_LINES = 20;
 
     private static final Check check = new Check("ReadmeTest");
@@ -53,33 +51,10 @@ public final class ReadmeTest {
             boolean isCall = told.matches();
             check.same("a call and what it answers: " + line, true, isCall);
             if (isCall) {
-                String due = told.group(3).equals("throws") ? "throws " + told.group(4) : told.group(4);
-                check.same(line, due, answerOf(works, told.group(1), told.group(2).split(", ")));
+                String due = told.group(2).equals("throws") ? "throws " + told.group(3) : told.group(3);
+                check.same(line, due, Written.answerOf(works, told.group(1)));
             }
         }
-    }
-
-    private static String answerOf(Holeworks works, String name, String[] written) throws ReflectiveOperationException {
-        for (Method method : Holeworks.class.getMethods()) {
-            if (method.getName().equals(name)) {
-                try {
-                    return String.valueOf(method.invoke(works, valuesFor(method, written)));
-                } catch (InvocationTargetException e) {
-                    return "throws " + e.getCause().getClass().getSimpleName();
-                }
-            }
-        }
-        return "no such call";
-    }
-
-    private static Object[] valuesFor(Method method, String[] written) {
-        Class<?>[] types = method.getParameterTypes();
-        Object[] values = new Object[types.length];
-        for (int index = 0; index < types.length; index++) {
-            boolean isFlag = types[index] == boolean.class;
-            values[index] = isFlag ? (Object) Boolean.valueOf(written[index]) : Integer.valueOf(written[index]);
-        }
-        return values;
     }
 
     private static void callsThatItNames(String page) {
